@@ -232,20 +232,20 @@ public final class SqlReader {
         IN("in", Level.TEST, 0), INDEX("index"), INNER("inner"), INSERT("insert"),
         INTEGER("integer", Level.NONE, 0), INTERSECT("intersect"), INTO("into"), IS("is", Level.TEST, 0),
         JOIN("join"), KEY("key"), LEFT("left"), LIKE("like", Level.TEST, 0), LIMIT("limit"),
-        MAX("max", Level.NONE, 4), MIN("min", Level.NONE, 3), NOT("not", Level.TEST, 0), NULL("null", Level.NONE, Kind.NULL),
-        OFFSET("offset"), ON("on"), OR("or", Level.OR, 0), ORDER("order"), OUTER("outer"), PRIMARY("primary"),
-        REAL("real", Level.NONE, 1), REFERENCES("references"), RELEASE("release"), REPLACE("replace", Level.NONE, Kind.NAME),
-        RESTRICT("restrict"), ROLLBACK("rollback"), SAVEPOINT("savepoint"), SELECT("select"), SET("set"),
-        SUM("sum", Level.NONE, 1), TABLE("table"), TEXT("text", Level.NONE, 2), THEN("then"), TO("to"),
-        UNION("union"), UNIQUE("unique"), UPDATE("update"), VALUES("values"), VIEW("view"), WHEN("when"),
-        WHERE("where"), WITH("with"),
-        NAME("", Level.NONE, Kind.NAME), WHOLE("", Level.NONE, Kind.INTEGER), DECIMAL("", Level.NONE, Kind.DECIMAL),
-        QUOTED("", Level.NONE, Kind.TEXT),
+        MAX("max", Level.NONE, 4), MIN("min", Level.NONE, 3), NOT("not", Level.TEST, 0),
+        NULL("null", Level.NONE, Kind.NULL), OFFSET("offset"), ON("on"), OR("or", Level.OR, 0), ORDER("order"),
+        OUTER("outer"), PRIMARY("primary"), REAL("real", Level.NONE, 1), REFERENCES("references"),
+        RELEASE("release"), REPLACE("replace", Level.NONE, Kind.NAME), RESTRICT("restrict"), ROLLBACK("rollback"),
+        SAVEPOINT("savepoint"), SELECT("select"), SET("set"), SUM("sum", Level.NONE, 1), TABLE("table"),
+        TEXT("text", Level.NONE, 2), THEN("then"), TO("to"), UNION("union"), UNIQUE("unique"), UPDATE("update"),
+        VALUES("values"), VIEW("view"), WHEN("when"), WHERE("where"), WITH("with"),
+        NAME("", Level.NONE, Kind.NAME), WHOLE("", Level.NONE, Kind.INTEGER),
+        DECIMAL("", Level.NONE, Kind.DECIMAL), QUOTED("", Level.NONE, Kind.TEXT),
         OPEN(""), CLOSE(""), COMMA(""), DOT(""),
         STAR("", Level.PRODUCT, '*'), SLASH("", Level.PRODUCT, '/'), PERCENT("", Level.PRODUCT, '%'),
         PLUS("", Level.SUM, '+'), MINUS("", Level.SUM, '-'), BARS("", Level.JOINT, 0),
-        EQUAL("", Level.TEST, 1), UNEQUAL("", Level.TEST, 2), LESS("", Level.TEST, 3),
-        AT_MOST("", Level.TEST, 4), MORE("", Level.TEST, 5), AT_LEAST("", Level.TEST, 6),
+        EQUAL("", Level.TEST, 1), UNEQUAL("", Level.TEST, 2), LESS("", Level.TEST, 3), AT_MOST("", Level.TEST, 4),
+        MORE("", Level.TEST, 5), AT_LEAST("", Level.TEST, 6),
         SEMICOLON(""), FINISH(""), WRONG("");
 
         private final String word;
@@ -1162,7 +1162,8 @@ public final class SqlReader {
         /** Ends all that waits and holds tighter than a level, with a node as its last operand. */
         private int close(int base, int level, int node) {
             int done = node;
-            while (waitingLevel(base) > level && waitingLevel(base) != Level.HALF_TEST) {
+            while (height > base && waitingLevels[height - 1] > level
+                    && waitingLevels[height - 1] != Level.HALF_TEST) {
                 height--;
                 int ended = waitingLevels[height];
                 if (ended == Level.NOT || ended == Level.SIGN) {
