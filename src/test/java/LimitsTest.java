@@ -66,7 +66,8 @@ public final class LimitsTest {
         atLimit("select ", "* from (select ", "1", ") a", 30);
         atLimit("", "with a as (", "select 1", ") select 2", 30);
         Check.bad("select " + Check.times("(", 30) + "count^(*)" + Check.times(")", 30));
-        Check.bad(Check.times("with a as (", 30) + "with b ^(c) as (select 1) select 2" + Check.times(") select 3", 30));
+        Check.bad(Check.times("with a as (", 30) + "with b ^(c) as (select 1) select 2"
+                + Check.times(") select 3", 30));
         Check.bad("select " + Check.times("(", 29) + "a in (f^(1))" + Check.times(")", 29));
         Check.good("select " + Check.times("(", 29) + "a in (1)" + Check.times(")", 29), 1);
     }

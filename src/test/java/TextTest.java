@@ -46,8 +46,8 @@ public final class TextTest {
 
     private static SqlReader filled(int length) {
         SqlReader reader = new SqlReader();
-        while (length >= 20 && reader.feed(0x20202020, 0x20202020, 0x20202020, 0x20202020, 0x20202020) + 20 <= length) {
-            continue;
+        for (int i = 0; i < length / 20; i++) {
+            reader.feed(0x20202020, 0x20202020, 0x20202020, 0x20202020, 0x20202020);
         }
         for (int i = length - length % 20; i < length; i++) {
             reader.add(' ');
