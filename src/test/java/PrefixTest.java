@@ -21,10 +21,13 @@ public final class PrefixTest {
             + "as i cross join j join k on 1 inner join l left join m on 2 left outer join ( select 4 ) n on 3 where "
             + "o group by p , q having r union select 5 union all select distinct 6 intersect select 7 except select "
             + "8 order by s , t asc , u desc limit 9 offset 10",
-        "select count ( * ) , count ( a ) , sum ( distinct b ) , avg ( c ) , min ( d ) , max ( e ) , group_concat ( f )",
-        "select replace ( a , b , c ) , cast ( d as integer ) , case when e then f when g then h end , exists ( select 1 )",
+        "select count ( * ) , count ( a ) , sum ( distinct b ) , avg ( c ) , min ( d ) , max ( e ) , "
+            + "group_concat ( f )",
+        "select replace ( a , b , c ) , cast ( d as integer ) , case when e then f when g then h end , "
+            + "exists ( select 1 )",
         "select not not a or - - b + c * d / e % f - g || h || i <= j and k is not null and l not like m",
-        "select a between b and c and d not between - e and ( f ) or ( ( g ) ) in ( ( h ) , i ) , ( ( select j ) ) > k",
+        "select a between b and c and d not between - e and ( f ) or ( ( g ) ) in ( ( h ) , i ) , "
+            + "( ( select j ) ) > k",
         "select a . b , f ( g ( ) , h ( 1 , 2 ) ) , ( a = b ) = ( c != d ) , ( a < b ) , 1.50 , 'it''s' , null"};
 
     public static void main(String[] args) {

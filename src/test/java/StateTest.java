@@ -8,6 +8,7 @@ public final class StateTest {
         readDropsTree();
         wrongStatementLeavesTree();
         readAgain();
+        refusedAgainAndAgain();
         edges();
         wrongIndexes();
         manyStatements();
@@ -139,6 +140,19 @@ public final class StateTest {
         Check.same("statement 2 of it", Check.tree(reader, 2), "24@14(39@22#1)");
         Check.same("read once more", reader.read(), 3);
         Check.same("statement 1 of it", Check.tree(reader, 1), "21@7");
+    }
+
+    private static void refusedAgainAndAgain() {
+        SqlReader reader = Check.of("select a or b and not c = d + e * f || -");
+        for (int i = 0; i < 200; i++) {
+            Check.noArgument("read " + i, () -> reader.read());
+            Check.same("where of read " + i, reader.where(), 40);
+        }
+        reader.add('g');
+        Check.same("read of the whole text", reader.read(), 1);
+        for (int i = 0; i < 200; i++) {
+            Check.same("statement for the time " + i, reader.statement(0), 27);
+        }
     }
 
     private static void edges() {
