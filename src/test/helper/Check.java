@@ -65,6 +65,12 @@ final class Check {
         return reader;
     }
 
+    /** A reader whose THE TEXT has so many bytes: blanks, and this text as their end. */
+    static SqlReader filled(int bytes, String end) {
+        return of(times(" ", bytes - end.length()) + end);
+    }
+
+    /** Puts a text to the end of THE TEXT, 20 bytes at once as long as it can be. */
     static void put(SqlReader reader, String text) {
         int fed = 0;
         for (; fed + 20 <= text.length(); fed += 20) {
@@ -134,6 +140,40 @@ final class Check {
         StringBuilder out = new StringBuilder();
         int behind = tree(reader, 0, out);
         return behind == count ? out.toString() : out + " of " + behind + " nodes, told are " + count;
+    }
+
+    /** All that can be asked of a reader without changing it: its bytes, where, the edges and THE TREE. */
+    static String state(SqlReader reader) {
+        StringBuilder out = new StringBuilder();
+        int bytes = 0;
+        int hash = 0;
+        for (; hasByte(reader, bytes); bytes++) {
+            hash = 31 * hash + reader.byteAt(bytes);
+        }
+        out.append(bytes).append(" bytes of hash ").append(hash).append(", where ").append(reader.where());
+        out.append(", edges");
+        for (int i = 0; i < reader.edges(); i++) {
+            out.append(' ').append(reader.edge(i, false)).append('-').append(reader.edge(i, true));
+        }
+        out.append(", tree ");
+        int behind = hasNode(reader, 0) ? tree(reader, 0, out) : 0;
+        return out.append(hasNode(reader, behind) ? " and more" : "").toString();
+    }
+
+    private static boolean hasByte(SqlReader reader, int place) {
+        try {
+            return reader.byteAt(place) >= 0;
+        } catch (IndexOutOfBoundsException e) {
+            return false;
+        }
+    }
+
+    private static boolean hasNode(SqlReader reader, int k) {
+        try {
+            return reader.node(k, 0) > 0;
+        } catch (IndexOutOfBoundsException e) {
+            return false;
+        }
     }
 
     private static int tree(SqlReader reader, int k, StringBuilder out) {
