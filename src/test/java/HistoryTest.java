@@ -149,19 +149,20 @@ public final class HistoryTest {
                 same("start", reader.edge(i, false), latest.edge(i, false));
                 same("end", reader.edge(i, true), latest.edge(i, true));
                 same("tree", treeOf(reader), tree);
-                calls += 22;
+                calls += 23;
             }
             same("where", reader.where(), where);
             same("edges", reader.edges(), statements);
             calls += 3;
         }
 
-        /** Asks only for the places of the KINDS, as each question is a call. */
+        /** Asks only for the KIND, the MARK and the PLACE of some NODES, as each question is a call. */
         private static String treeOf(SqlReader reader) {
             StringBuilder out = new StringBuilder();
             try {
-                for (int k = 0; k < 10; k++) {
-                    out.append(reader.node(k, 0)).append('@').append(reader.node(k, 2)).append(' ');
+                for (int k = 0; k < 7; k++) {
+                    out.append(reader.node(k, 0)).append('.').append(reader.node(k, 1));
+                    out.append('@').append(reader.node(k, 2)).append(' ');
                 }
             } catch (IndexOutOfBoundsException e) {
                 return out.length() == 0 ? "none" : out.toString();

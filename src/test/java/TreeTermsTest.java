@@ -5,6 +5,7 @@ public final class TreeTermsTest {
 
     public static void main(String[] args) {
         ofAllNodes();
+        ofOneStatementAlone();
         marksOfNothing();
         lengths();
         placesInBrackets();
@@ -29,6 +30,26 @@ public final class TreeTermsTest {
                 for (int k = 0; k < nodes; k++) {
                     ofNode(reader, k, text);
                 }
+            }
+        }
+    }
+
+    /** "THE TREE of a STATEMENT": nothing in it is of one that was THE TREE before. */
+    private static void ofOneStatementAlone() {
+        String text = String.join(" ; ", Samples.TEXTS);
+        SqlReader reader = Check.of(text);
+        int statements = reader.read();
+        String[] due = new String[statements];
+        for (int i = 0; i < statements; i++) {
+            String own = text.substring(reader.edge(i, false), reader.edge(i, true));
+            SqlReader alone = Check.filled(reader.edge(i, true), own);
+            alone.read();
+            due[i] = Check.tree(alone, 0);
+        }
+        for (int before = 0; before < statements; before++) {
+            for (int i = 0; i < statements; i++) {
+                reader.statement(before);
+                Check.same("tree of " + i + " behind that of " + before, Check.tree(reader, i), due[i]);
             }
         }
     }
